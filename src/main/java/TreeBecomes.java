@@ -7,6 +7,8 @@ public final class TreeBecomes {
     public static final int NO = -1000000;
 
     private static final int SIGNS = 8;
+    /** The signs below this have no arm. */
+    private static final int LEAVES = 4;
     private static final int STATES = 6;
     private static final int MOST_RULES = 16;
     private static final int MOST_NODES = 31;
@@ -409,7 +411,7 @@ public final class TreeBecomes {
     }
 
     private static int armsOf(int sign) {
-        return sign < 4 ? 0 : sign < 6 ? 1 : 2;
+        return sign < LEAVES ? 0 : sign < 6 ? 1 : 2;
     }
 
     private static int firstSignWith(int arms) {
@@ -539,14 +541,16 @@ public final class TreeBecomes {
             text.begin();
             int items = 0;
             for (int k = 0; k < MOST_BYTES && text.token != Text.END; k++) {
-                if (!readItem(text)) {
+                if (!readItem(text) || text.token != Text.STOP) {
                     return FAULTS - text.place;
                 }
+                text.next();
                 items++;
             }
             return items;
         }
 
+        /** An item as far as its end, which is left to read. */
         private boolean readItem(Text text) {
             if (text.token == Text.SIGN) {
                 return many < MOST_RULES && readRule(text);
@@ -581,7 +585,7 @@ public final class TreeBecomes {
             result[k] = text.value;
             text.next();
             many++;
-            return passStop(text);
+            return true;
         }
 
         private boolean readGood(Text text) {
@@ -593,14 +597,6 @@ public final class TreeBecomes {
                 toldGood |= 1 << text.value;
                 text.next();
             }
-            return passStop(text);
-        }
-
-        private static boolean passStop(Text text) {
-            if (text.token != Text.STOP) {
-                return false;
-            }
-            text.next();
             return true;
         }
 
@@ -947,8 +943,8 @@ public final class TreeBecomes {
             for (int k = 0; k < law.many; k++) {
                 rulesOf[law.sign[k]] |= bit(onHere, k) << k | bit(onThere, k) << k + MOST_RULES;
             }
-            for (int s = 0; armsOf(s) == 0 && s < SIGNS; s++) {
-                tally.addLeaf(offer(rulesOf[s], s, -1, -1));
+            for (int s = 0; s < LEAVES; s++) {
+                tally.putLeaf(s, offer(rulesOf[s], s, -1, -1));
             }
         }
 
@@ -1136,23 +1132,23 @@ public final class TreeBecomes {
     private static final class Tally {
         static final int ROW = MOST_COUNTED + 1;
         private final long[] trees = new long[Pairs.NUMBERS * ROW];
+        /** The pair that each sign without arms comes to. */
+        private final int[] leaf = new int[LEAVES];
         private boolean isDone;
 
         void begin() {
             isDone = false;
-            for (int k = 0; k < Pairs.NUMBERS * ROW; k++) {
-                trees[k] = 0;
-            }
         }
 
-        void addLeaf(int p) {
-            if (p >= 0 && p < Pairs.NUMBERS) {
-                trees[p * ROW + 1]++;
+        void putLeaf(int sign, int p) {
+            if (sign >= 0 && sign < LEAVES) {
+                leaf[sign] = p;
             }
         }
 
         long treesOf(Pairs pairs, int p, int n) {
             if (!isDone) {
+                addLeaves();
                 for (int k = 2; k < ROW; k++) {
                     addOneArmed(pairs, k);
                     addTwoArmed(pairs, k);
@@ -1160,6 +1156,15 @@ public final class TreeBecomes {
                 isDone = true;
             }
             return trees[p * ROW + n];
+        }
+
+        private void addLeaves() {
+            for (int k = 0; k < Pairs.NUMBERS * ROW; k++) {
+                trees[k] = 0;
+            }
+            for (int s = 0; s < LEAVES; s++) {
+                trees[leaf[s] * ROW + 1]++;
+            }
         }
 
         private void addOneArmed(Pairs pairs, int n) {

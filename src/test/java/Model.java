@@ -33,6 +33,8 @@ final class Model {
     private String tree = "";
     private final Kept[] images = new Kept[2];
     private long trace;
+    private final Map<List<Object>, Set<Pair>> pairsKnown = new HashMap<>();
+    private final Map<List<Object>, Map<Pair, String>> leastKnown = new HashMap<>();
 
     static int arms(char sign) {
         return "gh".indexOf(sign) >= 0 ? 2 : "ef".indexOf(sign) >= 0 ? 1 : 0;
@@ -405,8 +407,21 @@ final class Model {
         }
     }
 
+    /** What a kind of answer depends on, so that the dearest ones are not worked out again and again. */
+    private List<Object> asked(Set<Integer> by) {
+        return List.of(List.copyOf(rules), List.copyOf(on), List.copyOf(by));
+    }
+
     /** All pairs; null if there are more than 120. */
     private Set<Pair> pairs(Set<Integer> by) {
+        List<Object> key = asked(by);
+        if (!pairsKnown.containsKey(key)) {
+            pairsKnown.put(key, findPairs(by));
+        }
+        return pairsKnown.get(key);
+    }
+
+    private Set<Pair> findPairs(Set<Integer> by) {
         Set<Pair> known = new LinkedHashSet<>();
         int had = -1;
         while (known.size() != had) {
@@ -499,6 +514,14 @@ final class Model {
 
     /** The least tree of each pair, 31 signs at most. */
     private Map<Pair, String> leastTrees(Set<Integer> by) {
+        List<Object> key = asked(by);
+        if (!leastKnown.containsKey(key)) {
+            leastKnown.put(key, findLeastTrees(by));
+        }
+        return leastKnown.get(key);
+    }
+
+    private Map<Pair, String> findLeastTrees(Set<Integer> by) {
         Map<Pair, String> best = new HashMap<>();
         boolean[] changed = {true};
         while (changed[0]) {

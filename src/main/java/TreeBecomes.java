@@ -1201,7 +1201,10 @@ public final class TreeBecomes {
         private final int[] one = new int[Pairs.NUMBERS];
 
         int countKinds(Pairs pairs, int goods) {
-            int had = splitByGood(pairs, goods);
+            for (int p = 0; p < pairs.many; p++) {
+                kind[p] = pairs.isGoodHere(p, goods) ? 1 : 0;
+            }
+            int had = 0;
             for (int round = 0; round < Pairs.MOST; round++) {
                 int found = splitByMoves(pairs);
                 if (found == had) {
@@ -1210,15 +1213,6 @@ public final class TreeBecomes {
                 had = found;
             }
             return had;
-        }
-
-        private int splitByGood(Pairs pairs, int goods) {
-            int seen = 0;
-            for (int p = 0; p < pairs.many; p++) {
-                kind[p] = pairs.isGoodHere(p, goods) ? 1 : 0;
-                seen |= 1 << kind[p];
-            }
-            return Integer.bitCount(seen);
         }
 
         private int splitByMoves(Pairs pairs) {

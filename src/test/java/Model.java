@@ -268,6 +268,10 @@ final class Model {
         return over(s, first, second, by);
     }
 
+    boolean comesToNothing(String t) {
+        return comes(t, on).isEmpty();
+    }
+
     private Set<Integer> over(char s, Set<Integer> first, Set<Integer> second, Set<Integer> by) {
         Set<Integer> found = new TreeSet<>();
         for (int k : by) {

@@ -47,7 +47,7 @@ public final class ModelTest {
 
     private String law() {
         int rules = dice.nextInt(5) == 0 ? dice.nextInt(17) : 6 + dice.nextInt(11);
-        int states = 2 + dice.nextInt(5);
+        int states = 1 + dice.nextInt(2) + dice.nextInt(2) + dice.nextInt(4);
         StringBuilder b = new StringBuilder();
         for (int k = 0; k < rules; k++) {
             char s = "abcdabefefghghgh".charAt(dice.nextInt(16));
@@ -57,7 +57,7 @@ public final class ModelTest {
             }
             b.append(';');
         }
-        if (dice.nextInt(8) != 0) {
+        for (int k = dice.nextInt(4); k > 0; k--) {
             b.append("good ").append(dice.nextInt(states)).append(";");
         }
         return b.toString();
@@ -73,6 +73,15 @@ public final class ModelTest {
             missing += Model.arms(s) - 1;
         }
         return b.toString();
+    }
+
+    /** Trees by chance mostly come to nothing: of several one that comes to some state. */
+    private String fittingTree(int most) {
+        String t = tree(most);
+        for (int k = 0; k < 40 && m.comesToNothing(t); k++) {
+            t = tree(most);
+        }
+        return t;
     }
 
     private String spoilt(String text) {
@@ -111,7 +120,8 @@ public final class ModelTest {
     }
 
     private void readTree() {
-        String text = tree(dice.nextInt(6) == 0 ? 31 : 12);
+        int most = dice.nextInt(6) == 0 ? 31 : 2 + dice.nextInt(11);
+        String text = dice.nextInt(4) == 0 ? tree(most) : fittingTree(most);
         if (dice.nextInt(3) == 0) {
             text = spoilt(text);
         }

@@ -170,6 +170,10 @@ public final class PromisesTest {
         lawFault("a\t0;", 1);
         lawFault("a 0 0; !", 4);
         lawFault("a 0;\n", 4);
+        lawFault("a 0;" + (char) 0, 4);
+        lawFault("a 19;", 2);
+        lawFault("a 9;", 2);
+        lawFault("a 09;", 2);
         lawFault("a " + (char) 200 + ";", 2);
         lawFault("a " + (char) 0 + ";", 2);
     }
@@ -339,6 +343,11 @@ public final class PromisesTest {
         Due.same("left over", x.runs(), 2L * power(3, 15) % 1000003);
         Due.tree(x, "b");
         Due.same("no way", x.runs(), 0);
+        TreeBecomes z = Due.made("a 0;a 0;a 1;e 0 2;e 0 2;e 1 2;f 2 3;good 3;", "fea");
+        Due.same("one arm", z.runs(), 5);
+        z.good(2, 1);
+        z.good(3, 0);
+        Due.same("node 0 becomes another one", z.runs(), 0);
         TreeBecomes y = Due.made("a 0;a 0;g 0 0 0;good 0;", "g".repeat(15) + "a".repeat(16));
         Due.same("2 to 16", y.runs(), 65536);
     }
@@ -387,6 +396,10 @@ public final class PromisesTest {
         mend("a 0;b 1;g 1 1 2;h 1 0 2;good 2;", "gaa", 2, "gbb");
         mend("d 0;c 0;good 0;", "a", 1, "c");
         mend("d 0;c 1;e 1 2;f 0 2;good 2;", "ea", 1, "ec");
+        mend("b 0;a 1;good 0 1;", "c", 1, "a");
+        mend("a 0;b 1;good 0 1;", "c", 1, "a");
+        mend("a 0;e 0 0;b 1;e 1 1;good 0 1;", "fb", 1, "eb");
+        mend("b 0;e 0 0;a 1;e 1 1;good 0 1;", "fb", 1, "eb");
         TreeBecomes y = Due.made("a 0;e 0 1;good 1;", "gaa");
         Due.same("no way", y.mend(-1), TreeBecomes.NONE);
         Due.same("no way 2", y.mend(2), TreeBecomes.NONE);

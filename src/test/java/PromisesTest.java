@@ -157,6 +157,10 @@ public final class PromisesTest {
         lawFault("aa 0;", 0);
         lawFault("goo 0;", 0);
         lawFault("goods 0;", 0);
+        lawFault("food 0;", 0);
+        lawFault("gxod 0;", 0);
+        lawFault("goxd 0;", 0);
+        lawFault("goof 0;", 0);
         lawFault("good", 4);
         lawFault("good;", 4);
         lawFault("good 0", 6);
@@ -462,6 +466,7 @@ public final class PromisesTest {
         y.good(4, 0);
         y.good(5, 1);
         Due.same("32 signs are too many", y.least(-1), TreeBecomes.NONE);
+        Due.holds("second arm a", Due.least(Due.made("a 0;b 1;g 1 0 2;good 2;", "")).equals("gba"));
         TreeBecomes z = Due.made("a 0;b 1;c 2;e 0 3;g 1 1 4;h 3 2 5;g 2 3 5;good 5;", "");
         Due.holds("first of two", Due.least(z).equals("gcea"));
     }

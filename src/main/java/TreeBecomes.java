@@ -24,11 +24,11 @@ public final class TreeBecomes {
     private final Text text = new Text();
     private final Image[] images = new Image[IMAGES];
     private final Climb climb = new Climb();
+    private final Pairs pairs = new Pairs();
     private Law rules = new Law();
     private Law spareRules = new Law();
     private Tree nodes = new Tree();
     private Tree spareNodes = new Tree();
-    private Pairs pairs;
     private int on;
     private int goods;
     private long asked;
@@ -74,9 +74,7 @@ public final class TreeBecomes {
         for (int k = 0; k < IMAGES; k++) {
             images[k].kept = false;
         }
-        if (pairs != null) {
-            pairs.forget();
-        }
+        pairs.forget();
         return items;
     }
 
@@ -371,9 +369,6 @@ public final class TreeBecomes {
     }
 
     private Pairs pairsWith(int otherOn) {
-        if (pairs == null) {
-            pairs = new Pairs(rules);
-        }
         pairs.learn(rules, on, otherOn);
         return pairs;
     }
@@ -598,6 +593,17 @@ public final class TreeBecomes {
                 text.next();
             }
             return true;
+        }
+
+        void copyFrom(Law other) {
+            many = other.many;
+            toldGood = other.toldGood;
+            for (int k = 0; k < MOST_RULES; k++) {
+                sign[k] = other.sign[k];
+                first[k] = other.first[k];
+                second[k] = other.second[k];
+                result[k] = other.result[k];
+            }
         }
 
         /** Whether rule k can stand over arms that come to these states. */
@@ -887,15 +893,12 @@ public final class TreeBecomes {
         private final short[] joined = new short[MOST * MOST];
         final Tally tally = new Tally();
         final Kin kin = new Kin();
-        private Law law;
+        /** The law learnt last, as a copy: so it is there before one is learnt, and stays as it was. */
+        private final Law law = new Law();
         private int onHere = -1;
         private int onThere = -1;
         int many;
         boolean full;
-
-        Pairs(Law law) {
-            this.law = law;
-        }
 
         void forget() {
             for (int p = 0; p < many; p++) {
@@ -913,7 +916,7 @@ public final class TreeBecomes {
                 return;
             }
             forget();
-            law = its;
+            law.copyFrom(its);
             onHere = here;
             onThere = there;
             begin();

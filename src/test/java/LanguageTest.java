@@ -6,6 +6,7 @@ import java.nio.file.Files;
 import java.nio.file.Path;
 import java.util.Set;
 import java.util.TreeSet;
+import java.util.regex.Pattern;
 
 /** The face of the class, and what of LANGUAGE.md can be seen in its text. */
 public final class LanguageTest {
@@ -19,6 +20,8 @@ public final class LanguageTest {
         "throw", "throws", "try", "catch", "finally", "synchronized", "assert", "import", "package", "protected",
         "volatile", "native", "transient", "System", "Object", "Thread", "Random", "hashCode", "equals", "toString",
         "getClass", "var"};
+    private static final String CONSTRUCTOR = "public TreeBecomes() {";
+    private static final Pattern MAKES = Pattern.compile("\\bnew\\b|\\bclone\\b|\\bcopyOf");
     private static final int MOST_LINES = 60;
     private static final int MOST_FIELDS = 20;
     private static final int MOST_CLASSES = 12;
@@ -29,7 +32,7 @@ public final class LanguageTest {
         String code = withoutRemarks(Files.readString(Path.of(System.getProperty("treebecomes.source",
             "src/main/java/TreeBecomes.java"))));
         words(code);
-        lengths(code);
+        methods(code);
         Due.finish("LanguageTest");
     }
 
@@ -114,11 +117,15 @@ public final class LanguageTest {
         }
     }
 
-    /** A method begins with a line that ends in ") {" at a depth of one or two. */
-    private static void lengths(String code) {
+    /**
+     * Methods are short, and make nothing: what an object needs is made when it is made.
+     * A method begins with a line that ends in ") {" at a depth of one or two.
+     */
+    private static void methods(String code) {
         String[] lines = code.split("\n");
         int began = -1;
         int indent = 0;
+        int found = 0;
         for (int k = 0; k < lines.length; k++) {
             String line = lines[k];
             int spaces = line.length() - line.stripLeading().length();
@@ -126,10 +133,14 @@ public final class LanguageTest {
             if (isHead) {
                 began = k;
                 indent = spaces;
+                found++;
             } else if (began >= 0 && spaces == indent && line.strip().equals("}")) {
                 Due.holds("length of " + lines[began].strip(), k - began < MOST_LINES);
                 began = -1;
+            } else if (began >= 0 && !lines[began].strip().equals(CONSTRUCTOR)) {
+                Due.holds("makes nothing: " + line.strip(), !MAKES.matcher(line).find());
             }
         }
+        Due.holds("methods were found: " + found, found > FACE.length);
     }
 }

@@ -2,6 +2,7 @@
 final class Due {
     private static int wrong = 0;
     private static int asked = 0;
+    private static String test = "";
 
     private Due() {
     }
@@ -11,16 +12,27 @@ final class Due {
         if (got != want) {
             wrong++;
             if (wrong <= 40) {
-                System.out.println(what + " answered " + got + ", due is " + want);
+                System.out.println(test + what + " answered " + got + ", due is " + want);
             }
         }
+    }
+
+    /** What is asked from here on belongs to this test. */
+    static void begin(String name) {
+        test = name + ": ";
+    }
+
+    static int asked() {
+        return asked;
     }
 
     static void holds(String what, boolean is) {
         same(what, is ? 1 : 0, 1);
     }
 
-    static void type(TreeBecomes x, String text) {
+    /** By how many calls. */
+    static int type(TreeBecomes x, String text) {
+        int calls = 0;
         for (int at = 0; at < text.length(); at += 8) {
             String piece = text.substring(at, Math.min(at + 8, text.length()));
             long v = 0;
@@ -28,18 +40,24 @@ final class Due {
                 v = v << 8 | piece.charAt(k);
             }
             x.type(v, piece.length());
+            calls++;
         }
+        return calls;
+    }
+
+    /** The text becomes this one. */
+    static void text(TreeBecomes x, String text) {
+        x.clear();
+        type(x, text);
     }
 
     static int law(TreeBecomes x, String text) {
-        x.clear();
-        type(x, text);
+        text(x, text);
         return x.law();
     }
 
     static int tree(TreeBecomes x, String text) {
-        x.clear();
-        type(x, text);
+        text(x, text);
         return x.tree();
     }
 

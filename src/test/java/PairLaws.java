@@ -19,17 +19,22 @@ enum PairLaws {
         this.then = then;
     }
 
-    /** Image 0 keeps the one choice; the other one is on. */
     TreeBecomes make() {
+        return make(0);
+    }
+
+    /** The image keeps the one choice; the other one is on. */
+    TreeBecomes make(int image) {
         TreeBecomes x = Due.made(law, "");
         turnTo(x, kept);
-        x.keep(0);
+        x.keep(image);
         turnTo(x, then);
         return x;
     }
 
     static void turnTo(TreeBecomes x, int bits) {
-        for (int k = 0; k < x.count(0); k++) {
+        int rules = x.count(0);
+        for (int k = 0; k < rules; k++) {
             x.turn(k, bits >> k & 1);
         }
     }

@@ -4,12 +4,29 @@ final class AllTreesBounds {
     private static final int HIGH = Integer.MAX_VALUE;
     private static final int MOST_COUNTED = 15;
     /** Each tree comes to state 0. */
-    private static final String WHOLE = "a 0;b 0;c 0;d 0;e 0 0;f 0 0;g 0 0 0;h 0 0 0;";
+    static final String WHOLE = "a 0;b 0;c 0;d 0;e 0 0;f 0 0;g 0 0 0;h 0 0 0;";
     /** Trees come to each of the 64 sets; found by a search. */
     private static final String ALL_SETS = "f 3 2;e 4 1;e 5 2;c 0;h 3 2 4;h 0 2 0;e 3 5;e 5 0;f 0 5;f 4 3;f 2 1;e 1 4;"
         + "f 5 4;f 1 0;e 2 3;h 3 0 1;";
     /** States 0 .. 4 are come to by trees of 1, 3, 7, 15, 31 signs, state 5 by one of 32. */
-    private static final String DOUBLING = "a 0;g 0 0 1;g 1 1 2;g 2 2 3;g 3 3 4;e 4 5;";
+    static final String DOUBLING = "a 0;g 0 0 1;g 1 1 2;g 2 2 3;g 3 3 4;e 4 5;";
+
+    /** Laws with several good trees, and the first of those with the fewest signs. */
+    static final String[][] FIRSTS = {
+        {"a 0;b 1;g 1 0 2;good 2;", "gba"}, {"a 0;b 1;e 1 2;e 2 3;f 0 3;good 3;", "fa"},
+        {"a 0;b 1;g 0 0 2;h 1 1 3;e 2 3;good 3;", "hbb"},
+        {"b 0;a 0;good 0;", "a"}, {"c 0;d 1;good 0 1;", "c"}, {"d 0;c 1;good 0 1;", "c"},
+        {"a 0;f 0 1;e 0 1;good 1;", "ea"}, {"a 0;e 0 1;f 0 2;good 1 2;", "ea"}, {"a 0;f 0 1;e 0 2;good 1 2;", "ea"},
+        {"a 0;b 1;e 1 2;f 0 3;good 2 3;", "eb"}, {"a 0;b 1;f 0 2;e 1 3;good 2 3;", "eb"},
+        {"a 0;h 0 0 1;g 0 0 1;good 1;", "gaa"}, {"a 0;h 0 0 1;g 0 0 2;good 1 2;", "gaa"},
+        {"a 0;b 1;g 0 1 2;g 1 0 2;good 2;", "gab"}, {"b 0;a 1;g 0 1 2;g 1 0 2;good 2;", "gab"},
+        {"a 0;b 1;c 2;g 0 2 3;g 0 1 3;good 3;", "gab"}, {"a 0;b 1;c 2;g 0 2 3;g 0 1 4;good 3 4;", "gab"},
+        {"a 0;b 1;c 2;g 0 1 3;g 0 2 4;good 3 4;", "gab"}, {"a 0;b 1;c 2;g 2 0 3;g 1 2 4;good 3 4;", "gbc"},
+        {"a 0;e 0 1;g 1 0 2;g 0 1 2;good 2;", "gaea"}, {"a 0;e 0 1;g 1 0 2;g 0 1 3;good 2 3;", "gaea"},
+        {"a 0;e 0 1;f 0 2;g 2 0 3;g 1 0 3;good 3;", "geaa"}, {"a 0;e 0 1;f 0 2;g 2 0 3;g 1 0 4;good 3 4;", "geaa"},
+        {"a 0;b 1;c 2;e 2 3;e 1 4;g 0 3 5;g 0 4 5;good 5;", "gaeb"},
+        {"b 0;c 1;e 1 2;f 0 2;e 2 3;good 3;", "eec"},
+        {"d 0;c 1;g 0 1 2;g 1 0 2;f 2 3;h 0 1 4;h 1 0 4;e 4 3;good 3;", "ehcd"}};
 
     private AllTreesBounds() {
     }
@@ -93,6 +110,23 @@ final class AllTreesBounds {
         Due.same("by great trees", Due.made(DOUBLING + "good 5;", "").classes(), 7);
     }
 
+    /** A law behind any other one is told as by a new object. */
+    static void promise17_classes_forgetAnEarlierLaw() {
+        for (String[] first : FIRSTS) {
+            int due = Due.made(first[0], "").classes();
+            TreeBecomes x = Due.made(ALL_SETS + "good 0;", "");
+            Due.holds("many classes", x.classes() > due);
+            Due.holds("law", Due.law(x, first[0]) >= 0);
+            Due.same(first[0] + " behind all sets", x.classes(), due);
+            for (String[] earlier : FIRSTS) {
+                TreeBecomes y = Due.made(earlier[0], "");
+                Due.holds("classes", y.classes() > 1);
+                Due.holds("law", Due.law(y, first[0]) >= 0);
+                Due.same(first[0] + " behind " + earlier[0], y.classes(), due);
+            }
+        }
+    }
+
     // ---- 18: useful
 
     static void promise18_useful_mayBeNoneOrAll() {
@@ -102,6 +136,13 @@ final class AllTreesBounds {
         Due.same("all six", Due.made(DOUBLING + "good 5;", "").useful(), 63);
         Due.same("all but the one of 32 signs", Due.made(DOUBLING + "good 4;", "").useful(), 31);
         Due.same("one", Due.made("a 5;good 5;", "").useful(), 32);
+    }
+
+    /** Six states one behind the other: in whichever order the rules are told. */
+    static void promise18_useful_throughAllStates() {
+        Due.same("from the last to the first", Due.made("e 4 5;e 3 4;e 2 3;e 1 2;e 0 1;a 0;good 5;", "").useful(), 63);
+        Due.same("from the first to the last", Due.made("a 0;e 0 1;e 1 2;e 2 3;e 3 4;e 4 5;good 5;", "").useful(), 63);
+        Due.same("none behind the good one", Due.made("e 4 5;e 3 4;e 2 3;e 1 2;e 0 1;a 0;good 4;", "").useful(), 31);
     }
 
     static void promise18_useful_needsBothHalves() {
@@ -170,6 +211,13 @@ final class AllTreesBounds {
         Due.same("with h ahead, though e comes before it", x.least(0), 7);
     }
 
+    static void promise19_least_isTheFirstOfSeveral() {
+        for (String[] first : FIRSTS) {
+            TreeBecomes x = Due.made(first[0], "");
+            Due.holds(first[0] + " least is " + Due.least(x), Due.least(x).equals(first[1]));
+        }
+    }
+
     static void promise19_least_tellsNoneForEachSign() {
         for (String law : new String[] {"", "good 0;", "a 0;", "e 0 0;good 0;", DOUBLING + "good 5;"}) {
             TreeBecomes x = Due.made(law, "");
@@ -211,6 +259,17 @@ final class AllTreesBounds {
         Due.same("many 15", x.many(15), 0);
         x.good(2, 0);
         Due.same("nothing good", x.many(3), 0);
+    }
+
+    /** Each sign with arms by itself, over arms that come to other sets. */
+    static void promise20_many_countsBySign() {
+        for (String law : new String[] {"e 2 3;g 0 1 4;", "e 2 3;h 0 1 4;", "f 2 3;g 0 1 4;", "f 2 3;h 0 1 4;"}) {
+            TreeBecomes x = Due.made("a 0;b 1;c 2;" + law + "good 3 4;", "");
+            long[] due = {0, 1, 1, 0};
+            for (int n = 1; n <= 4; n++) {
+                Due.same(law + " many " + n, x.many(n), due[n - 1]);
+            }
+        }
     }
 
     /** A tree is counted once, in however many ways it is good. */

@@ -177,6 +177,7 @@ final class KindBounds {
         TreeBecomes x = Due.made("a 0;b 1;good 0;", "gab");
         x.keep(0);
         for (int k = 0; k < 3; k++) {
+            x.sign(0, 7);
             x.sign(1, 3);
             x.exchange(0);
             x.turn(1, 0);

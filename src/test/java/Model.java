@@ -420,20 +420,24 @@ final class Model {
     private Set<Pair> pairs(Set<Integer> by) {
         List<Object> key = asked(by);
         if (!pairsKnown.containsKey(key)) {
-            pairsKnown.put(key, findPairs(by));
+            Set<Pair> found = findPairs(by, 120);
+            pairsKnown.put(key, found.size() > 120 ? null : found);
         }
         return pairsKnown.get(key);
     }
 
-    private Set<Pair> findPairs(Set<Integer> by) {
+    /** How many there are with an image's law, however many. */
+    int pairCount(int image) {
+        return findPairs(images[image].on, Integer.MAX_VALUE).size();
+    }
+
+    /** All of them, or some above a limit. */
+    private Set<Pair> findPairs(Set<Integer> by, int limit) {
         Set<Pair> known = new LinkedHashSet<>();
         int had = -1;
-        while (known.size() != had) {
+        while (known.size() != had && known.size() <= limit) {
             had = known.size();
             makeAll(new ArrayList<>(known), by, (s, a, b, result) -> known.add(result));
-            if (known.size() > 120) {
-                return null;
-            }
         }
         return known;
     }

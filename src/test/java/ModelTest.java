@@ -23,7 +23,7 @@ public final class ModelTest {
             new ModelTest(run).calls();
         }
         for (PairLaws laws : PairLaws.values()) {
-            new ModelTest(laws.pairs).manyPairs(laws);
+            new ModelTest(laws.ordinal()).manyPairs(laws);
         }
         Due.finish("ModelTest");
     }
@@ -158,6 +158,9 @@ public final class ModelTest {
         turnTo(laws.kept);
         due("sets", x.sets(), m.sets());
         due("classes", x.classes(), m.classes());
+        due("keep", x.keep(0), m.keep(0));
+        turnTo(laws.then);
+        due("pairs of the model", m.pairCount(0), laws.pairs);
         for (int s = 0; s < 6; s++) {
             turnTo(laws.kept);
             due("good", x.good(s, 1), m.good(s, 1));

@@ -4,6 +4,9 @@ enum PairLaws {
         + "f 3 1;h 0 2 1;", 65263, 36863),
     ONE_TOO_MANY(121, "g 1 4 0;h 1 4 2;h 2 1 1;f 1 3;h 3 4 4;f 2 3;f 0 2;f 2 0;d 1;e 4 0;f 2 1;d 4;f 4 2;e 2 4;"
         + "f 0 5;f 1 4;", 64767, 65311),
+    /** The 121st is found only over the tree that is the greatest of the 120 others' least ones. */
+    ONE_TOO_MANY_AT_LAST(121, "f 1 2;f 0 1;e 5 1;e 1 3;e 3 4;f 3 3;e 5 0;f 5 4;f 4 5;e 4 5;f 4 1;d 1;e 3 5;e 1 2;"
+        + "f 2 3;f 1 1;", 60317, 63978),
     FAR_TOO_MANY(200, "d 1;d 5;f 1 4;f 5 3;b 4;e 3 3;e 0 4;e 4 1;e 5 5;e 1 5;e 5 0;f 3 2;a 4;e 5 4;f 3 1;f 0 2;",
         63231, 8191);
 

@@ -285,7 +285,9 @@ final class PartBounds {
         exchanged("gab", 0, "gba");
         exchanged("gaa", 0, "gaa");
         exchanged("ga" + "f".repeat(28) + "b", 0, "g" + "f".repeat(28) + "ba");
-        exchanged("g" + "ga".repeat(7) + "b" + "hc".repeat(7) + "d", 0, "g" + "hc".repeat(7) + "d" + "ga".repeat(7) + "b");
+        String one = "ga".repeat(7) + "b";
+        String other = "hc".repeat(7) + "d";
+        exchanged("g" + one + other, 0, "g" + other + one);
         exchanged("e".repeat(28) + "hab", 28, "e".repeat(28) + "hba");
         exchanged("gghabcd", 1, "ggchabd");
         exchanged("gghabcd", 2, "gghbacd");

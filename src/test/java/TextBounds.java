@@ -380,9 +380,10 @@ final class TextBounds {
 
     /** In each place of each item: a NUMBER above 5, one above 99, one with a 0 ahead of others. */
     static void promise04_law_refusesNumbersAbove5() {
-        String[] wrong = {"6", "7", "8", "9", "10", "15", "50", "55", "60", "98", "99", "100", "101", "105", "256",
-            "260", "1000", "65536", "65541", "2147483648", "4294967296", "4294967301", "18446744073709551616",
-            "18446744073709551621", "1".repeat(200), "00", "01", "05", "06", "000", "005", "0".repeat(200)};
+        String[] wrong = {"6", "7", "8", "9", "10", "15", "19", "50", "55", "59", "60", "98", "99", "100", "101", "105",
+            "109", "256", "260", "1000", "65536", "65541", "2147483648", "4294967296", "4294967301",
+            "18446744073709551616", "18446744073709551621", "1".repeat(200), "00", "01", "05", "06", "000",
+            "005", "0".repeat(200)};
         for (String number : wrong) {
             fault("a " + number + ";", 2);
             fault("e " + number + " 0;", 2);
@@ -420,7 +421,8 @@ final class TextBounds {
 
     /** A word is told as a whole, by its first byte's place. */
     static void promise04_law_refusesOtherWords() {
-        String[] wrong = {"i", "j", "z", "aa", "ab", "gh", "go", "goo", "god", "gooo", "goodd", "goods", "agood",
+        String[] wrong = {"i", "j", "z", "aa", "ab", "az", "gh", "go", "goo", "god", "gooo", "goodd", "goods", "goodz",
+            "agood",
             "ggood", "oood", "gxod", "goxd", "goox", "hood", "bad", "g".repeat(255)};
         for (String word : wrong) {
             fault(word, 0);
@@ -443,7 +445,10 @@ final class TextBounds {
         }
         for (String token : new String[] {"a", "h", "good", ";"}) {
             fault("a " + token, 2);
+            fault("e " + token, 2);
             fault("e 0 " + token, 4);
+            fault("g " + token, 2);
+            fault("g 0 " + token, 4);
             fault("g 0 1 " + token, 6);
             fault("good " + token, 5);
         }
@@ -459,7 +464,8 @@ final class TextBounds {
     }
 
     static void promise04_law_mustNotEndTooEarly() {
-        String[] begun = {"a", "a 0", "e", "e 0", "e 0 1", "h", "h 0", "h 0 1", "h 0 1 2", "good", "good 0", "good 0 1"};
+        String[] begun = {"a", "a 0", "e", "e 0", "e 0 1", "h", "h 0", "h 0 1", "h 0 1 2", "good", "good 0",
+            "good 0 1"};
         for (String text : begun) {
             fault(text, text.length());
             fault(text + "   ", text.length() + 3);
@@ -531,6 +537,26 @@ final class TextBounds {
         Due.same("good by the new law", x.isGood(), 1);
         Due.same("trace", x.trace(), 100001);
         Due.same("no tree stays none", new TreeBecomes().law(), 0);
+    }
+
+    /** As many rules, all on, before and after: what was told by the earlier law is not told again. */
+    static void promise04_law_readAnewIsTheOneThatIsTold() {
+        TreeBecomes x = Due.made("a 0;e 0 1;good 1;", "ea");
+        long[] first = {1, 1, 3, 3, 3, 2, 4, 0, 1};
+        long[] second = {0, 0, 2, 2, 2, 1, 1, 2, 0};
+        allAnswers(x, first);
+        Due.same("law", Due.law(x, "b 1;c 1;good 1;"), 3);
+        allAnswers(x, second);
+        Due.same("law", Due.law(x, "a 0;e 0 1;good 1;"), 3);
+        allAnswers(x, first);
+    }
+
+    private static void allAnswers(TreeBecomes x, long[] due) {
+        long[] told = {x.isGood(), x.runs(), x.sets(), x.classes(), x.useful(), x.least(-1), x.least(0), x.many(1),
+            x.many(2)};
+        for (int k = 0; k < told.length; k++) {
+            Due.same("answer " + k, told[k], due[k]);
+        }
     }
 
     static void promise04_law_tellsItemsNotRules() {
@@ -640,7 +666,8 @@ final class TextBounds {
     }
 
     static void promise05_tree_changesNothingByAFault() {
-        String[] wrong = {"", "  ", "g", "gab c", "gabi", "e".repeat(31) + "a", FULL_TREE + "a", "a;", "" + (char) 255};
+        String[] wrong = {"", "  ", "g", "gab c", "gabi", "e".repeat(31) + "a", FULL_TREE + "a", "a;",
+            "" + (char) 255};
         for (String text : wrong) {
             int place = Due.tree(new TreeBecomes(), text);
             Due.holds("a fault: " + text, place <= -10);

@@ -203,7 +203,17 @@ final class TreeBounds {
         mended("b 0;a 1;g 0 0 2;g 1 1 2;good 2;", "gab", "gaa");
         mended("c 0;d 1;g 0 1 2;g 1 0 2;good 2;", "gcc", "gcd");
         mended("a 0;b 1;h 0 0 2;h 1 0 2;g 1 1 2;good 2;", "gba", "gbb");
+        mended("b 0;a 1;good 0 1;", "c", "a");
+        mended("a 0;b 1;good 0 1;", "c", "a");
         mended("a 0;b 0;e 0 0;good 0;", "f".repeat(30) + "c", "e".repeat(30) + "a");
+    }
+
+    /** However early its signs come, a way with more of them is not taken; whichever state it is good by. */
+    static void promise15_mend_takesTheFewestAheadOfTheFirst() {
+        mended("a 0;b 1;e 0 2;e 1 3;good 2 3;", "fb", "eb");
+        mended("b 0;a 1;e 0 2;e 1 3;good 2 3;", "fb", "eb");
+        mended("a 0;b 1;e 0 2;f 1 2;good 2;", "fc", "fb");
+        mended("a 0;d 1;g 0 0 2;h 1 1 3;good 2 3;", "hdc", "hdd");
     }
 
     static void promise15_mend_tellsNoneForEachNode() {

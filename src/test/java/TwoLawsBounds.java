@@ -3,9 +3,6 @@ final class TwoLawsBounds {
     private static final int BAD = -1, STATE = -2, FULL = -3, NONE = -9, NOT_SO_MANY = -5;
     private static final int LOW = Integer.MIN_VALUE, HIGH = Integer.MAX_VALUE;
     private static final int MOST_COUNTED = 15;
-    private static final String WHOLE = "a 0;b 0;c 0;d 0;e 0 0;f 0 0;g 0 0 0;h 0 0 0;";
-    /** States 0 .. 4 are come to by trees of 1, 3, 7, 15, 31 signs, state 5 by one of 32. */
-    private static final String DOUBLING = "a 0;g 0 0 1;g 1 1 2;g 2 2 3;g 3 3 4;e 4 5;";
 
     private TwoLawsBounds() {
     }
@@ -36,6 +33,7 @@ final class TwoLawsBounds {
             told.good(1, 1);
             Due.same("120 pairs, one law with a good state", told.alike(image), 0);
             Due.same("121 pairs", PairLaws.ONE_TOO_MANY.make(image).alike(image), FULL);
+            Due.same("121 pairs at last", PairLaws.ONE_TOO_MANY_AT_LAST.make(image).alike(image), FULL);
             Due.same("200 pairs", PairLaws.FAR_TOO_MANY.make(image).alike(image), FULL);
         }
     }
@@ -74,7 +72,7 @@ final class TwoLawsBounds {
     }
 
     static void promise21_alike_looksAtAllTrees() {
-        TreeBecomes x = Due.made(DOUBLING + "good 5;", "");
+        TreeBecomes x = Due.made(AllTreesBounds.DOUBLING + "good 5;", "");
         x.keep(0);
         x.turn(5, 0);
         Due.same("told apart by 32 signs", x.alike(0), 0);
@@ -125,6 +123,7 @@ final class TwoLawsBounds {
     static void promise22_apart_isFullAbove120Pairs() {
         for (int i : new int[] {-1, 0, 30, 31, HIGH}) {
             Twins.refused(Twins.Life.FULL, "121 pairs, " + i, FULL, x -> x.apart(0, i));
+            Due.same("121 pairs at last, " + i, PairLaws.ONE_TOO_MANY_AT_LAST.make(1).apart(1, i), FULL);
             Due.same("200 pairs, " + i, PairLaws.FAR_TOO_MANY.make(1).apart(1, i), FULL);
         }
         for (int image = 0; image <= 1; image++) {
@@ -149,7 +148,7 @@ final class TwoLawsBounds {
 
     static void promise22_apart_has31SignsAtMost() {
         for (int image = 0; image <= 1; image++) {
-            TreeBecomes x = Due.made(DOUBLING, "");
+            TreeBecomes x = Due.made(AllTreesBounds.DOUBLING, "");
             x.keep(image);
             x.good(4, 1);
             Due.same("31 signs, good here", x.apart(image, -1), 31);
@@ -205,6 +204,26 @@ final class TwoLawsBounds {
         Due.same("a ahead of both", x.apart(0, 0), 0);
     }
 
+    /** Beside a law by which nothing is good, on either side. */
+    static void promise22_apart_isTheFirstOfSeveral() {
+        for (String[] first : AllTreesBounds.FIRSTS) {
+            TreeBecomes x = Due.made(first[0], "");
+            int goods = x.count(2);
+            x.keep(0);
+            setGoods(x, 0);
+            x.keep(1);
+            Due.holds(first[0] + " there: " + Due.apart(x, 0), Due.apart(x, 0).equals(first[1]));
+            setGoods(x, goods);
+            Due.holds(first[0] + " here: " + Due.apart(x, 1), Due.apart(x, 1).equals(first[1]));
+        }
+    }
+
+    private static void setGoods(TreeBecomes x, int bits) {
+        for (int state = 0; state <= 5; state++) {
+            x.good(state, bits >> state & 1);
+        }
+    }
+
     // ---- 23: both
 
     static void promise23_both_refusesImagesThatAreNot() {
@@ -230,6 +249,7 @@ final class TwoLawsBounds {
         for (int n = 1; n <= MOST_COUNTED; n++) {
             int signs = n;
             Twins.refused(Twins.Life.FULL, "121 pairs, " + n, FULL, x -> x.both(0, signs));
+            Due.same("121 pairs at last, " + n, PairLaws.ONE_TOO_MANY_AT_LAST.make(1).both(1, n), FULL);
             Due.same("200 pairs, " + n, PairLaws.FAR_TOO_MANY.make(1).both(1, n), FULL);
         }
         TreeBecomes told = PairLaws.MOST_TOLD.make();
@@ -258,7 +278,7 @@ final class TwoLawsBounds {
 
     static void promise23_both_countsUpTo15Signs() {
         for (int image = 0; image <= 1; image++) {
-            TreeBecomes x = Due.made(WHOLE + "good 0;", "");
+            TreeBecomes x = Due.made(AllTreesBounds.WHOLE + "good 0;", "");
             x.keep(image);
             for (int n = 1; n <= MOST_COUNTED; n++) {
                 Due.same("with itself " + n, x.both(image, n), x.many(n));

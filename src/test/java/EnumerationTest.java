@@ -1,85 +1,38 @@
-import java.util.ArrayList;
 import java.util.List;
 import java.util.Random;
-import java.util.Set;
-import java.util.TreeSet;
 
 /** What is told of all trees, against all trees of up to six signs looked at one by one. */
 public final class EnumerationTest {
     private static final int MOST = 6;
-    private static final List<List<String>> TREES = new ArrayList<>();
+    private static final List<List<String>> TREES = PlainLaw.allTrees(MOST);
 
     public static void main(String[] args) {
-        enumerate();
         for (int seed = 0; seed < 25; seed++) {
             compare(new Random(seed));
         }
         Due.finish("EnumerationTest");
     }
 
-    private static void enumerate() {
-        TREES.add(new ArrayList<>());
-        for (int n = 1; n <= MOST; n++) {
-            Set<String> now = new TreeSet<>();
-            for (char s = 'a'; s <= 'h'; s++) {
-                if (Model.arms(s) == 0 && n == 1) {
-                    now.add("" + s);
-                }
-                for (String t : Model.arms(s) == 1 ? TREES.get(n - 1) : new ArrayList<String>()) {
-                    now.add(s + t);
-                }
-                for (int k = 1; Model.arms(s) == 2 && k < n - 1; k++) {
-                    for (String a : TREES.get(k)) {
-                        for (String b : TREES.get(n - 1 - k)) {
-                            now.add(s + a + b);
-                        }
-                    }
-                }
-            }
-            TREES.add(new ArrayList<>(now));
-        }
-    }
-
-    private static String law(Random dice) {
-        StringBuilder b = new StringBuilder();
-        int states = 2 + dice.nextInt(4);
-        for (int k = 0; k < 6 + dice.nextInt(11); k++) {
-            char s = "abcdefefghghgh".charAt(dice.nextInt(14));
-            b.append(s);
-            for (int a = 0; a <= Model.arms(s); a++) {
-                b.append(' ').append(dice.nextInt(states));
-            }
-            b.append(';');
-        }
-        return b.append("good ").append(dice.nextInt(states)).append(';').toString();
-    }
-
-    /** Whether the tree that the text is becomes good, as x tells it of that tree alone. */
-    private static boolean isGood(TreeBecomes x, String t) {
-        Due.tree(x, t);
-        return x.isGood() == 1;
-    }
-
     private static void compare(Random dice) {
-        String text = law(dice);
-        TreeBecomes x = Due.made(text, "");
-        TreeBecomes other = Due.made(text, "");
+        PlainLaw kept = PlainLaw.byChance(dice, 2 + dice.nextInt(4));
         for (int k = 0; k < 3; k++) {
-            int r = dice.nextInt(Math.max(1, x.count(0)));
-            x.turn(r, 0);
-            other.turn(r, 0);
+            kept.on &= ~(1 << dice.nextInt(kept.rules.size()));
         }
+        PlainLaw law = kept.copy();
+        law.goods |= 1 << dice.nextInt(4);
+        law.on ^= 1 << dice.nextInt(6);
+        String text = law.told();
+        TreeBecomes x = kept.made();
         x.keep(0);
-        x.good(dice.nextInt(4), 1);
-        x.turn(dice.nextInt(6), dice.nextInt(2));
+        law.show(x);
         String least = "";
         String apart = "";
         for (int n = 1; n <= MOST; n++) {
             int many = 0;
             int both = 0;
             for (String t : TREES.get(n)) {
-                boolean here = isGood(x, t);
-                boolean there = isGood(other, t);
+                boolean here = law.isGood(t);
+                boolean there = kept.isGood(t);
                 many += here ? 1 : 0;
                 both += here && there ? 1 : 0;
                 least = here && least.isEmpty() ? t : least;
